@@ -11,8 +11,8 @@ public final class PackageRows {
     private static final int MOST_ROWS = 200;
     /** The shortest feature of a text, "feature a:;", has 11 signs: there can't be more. */
     private static final int MOST_FEATURES = MOST_SIGNS / 11;
-    /** A row grows by at most 11 signs (blanks, >= for >, a digit more by a carry) when printed. */
-    private static final int MOST_PRINTED = MOST_SIGNS + 12 * MOST_ROWS;
+    /** Printed, a row has at most 10 signs more than in its text (blanks, >= for >, a carry), a feature 1. */
+    private static final int MOST_PRINTED = MOST_SIGNS + 10 * MOST_ROWS + MOST_FEATURES;
     private static final int MOST_LETTERS = 20;
     private static final int MOST_DIGITS = 6;
     private static final int MOST_BOUNDS = 2;

@@ -207,6 +207,18 @@ public final class PromiseTests {
         dueRow("file f", -7);
         dueRow("run b *;", -1);
         dueRow("9;", -1);
+        dueRow("need ;", -6);
+        dueRow("need run ;", -10);
+        dueRow("conflict ;", -10);
+        dueRow("provide ;", -9);
+        dueRow("script ;", -8);
+        dueRow("file ;", -6);
+        dueRow("need peer b- *;", -11);
+        dueRow("replace b- *;", -9);
+        dueRow("provide b- 1.0.0;", -9);
+        dueRow("script b- c;", -8);
+        dueRow("script b c-;", -10);
+        dueRow("file b- 1;", -6);
     }
 
     private static void readingLists() {
@@ -222,6 +234,11 @@ public final class PromiseTests {
         dueRow("feature f;", -10);
         dueRow("feature f", -10);
         dueRow("feature : a;", -9);
+        dueRow("feature ;", -9);
+        dueRow("feature f-: a;", -9);
+        dueRow("feature f: a-;", -12);
+        dueRow("any a- *|b *;", -5);
+        dueRow("any a *|b- *;", -9);
         dueRow("feature f: ,a;", -12);
         dueRow("feature f: a,;", -14);
         dueRow("feature f: a b;", -14);
@@ -374,7 +391,9 @@ public final class PromiseTests {
         begin("BROKEN: neither feature nor optional need");
         dueWhys("feature f: g, h, I.i, f, a-a; feature G:; need optional i_I *; need run h *;",
                 0, 0, 3, 0, 0, 3, 0);
+        dueWhys("feature f: B-b; need optional b_b *;", 0, 0);
         begin("BROKEN: written differently");
+        dueWhys("need run b-b *; need run b--b *; keeper k, k, k_k, k-k;", 4, 0, 4);
         dueWhys("need run b *; need run B *; keeper k, K; keeper l, l; platform p-p, p_p; licence q, q, Q;"
                 + " feature d:; default d, D; conflict c *; conflict C *; replace r *; replace r >1.0.0;",
                 4, 4, 0, 4, 4, 4, 4, 0);
