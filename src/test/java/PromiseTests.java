@@ -1,10 +1,5 @@
 /** Each promise of the document with ordinary inputs, the edges that it names, and wrong inputs. */
-public final class PromiseTests {
-    private static final long END = 1000000000000000000L;
-    private static int wrong = 0;
-    private static String promise = "";
-    private static PackageRows x = new PackageRows();
-
+public final class PromiseTests extends Checks {
     public static void main(String[] args) {
         aNewObject();
         typing();
@@ -33,10 +28,7 @@ public final class PromiseTests {
         printedFeatures();
         fold();
         at();
-        System.out.println(wrong == 0 ? "all answers are as due" : wrong + " answers are not as due");
-        if (wrong != 0) {
-            System.exit(1);
-        }
+        finish();
     }
 
     private static void aNewObject() {
@@ -76,12 +68,14 @@ public final class PromiseTests {
         due("signs above 127 are signs", x.fold(), -2);
 
         begin("2 type: more than 2000 signs");
-        type(" ".repeat(1999) + "ab");
+        x.typeText(" ".repeat(1999) + "ab");
         due("the 2001st is dropped", x.fold(), 1);
         duePrinted("a");
-        type(" ".repeat(2500));
+        afresh();
+        x.typeText(" ".repeat(2500));
         due("2000 are left", x.fold(), -2001);
-        type("package a 1.0.0;" + " ".repeat(1984) + "x");
+        afresh();
+        x.typeText("package a 1.0.0;" + " ".repeat(1984) + "x");
         due("what can't stand was dropped", x.read(), 0);
         due("they are used up", x.read(), -1);
     }
@@ -268,26 +262,26 @@ public final class PromiseTests {
     private static void readingTooManyRows() {
         begin("3 read: more than 200 rows");
         String two = "a,".repeat(199) + "a";
-        dueRow("keeper " + two + ";", 0);
+        dueRowAlone("keeper " + two + ";", 0);
         due("they join", x.rows(0), 1);
-        dueRow("keeper " + two + ",a;", -1);
-        dueRow("keeper " + two + "; keeper ", -416);
-        dueRow("keeper " + two + "; keeper a-;", -416);
-        dueRow("keeper " + two + "; keeper a", -409);
-        dueRow("keeper " + two + "; need run b 1;", -420);
-        dueRow("keeper " + two + "; need run b <1.0.0 >2;", -429);
-        dueRow("keeper " + two + "; need run b <1.0.0 x", -409);
-        dueRow("keeper " + two + "; any b <1.0.0 x", -409);
-        dueRow("keeper " + two + "; script b ;", -418);
-        dueRow("keeper " + two + "; script b c d", -409);
-        dueRow("keeper " + two + "; file b x;", -416);
-        dueRow("keeper " + two + "; file b 1", -409);
-        dueRow("keeper " + two + "; provide b 1.0;", -422);
-        dueRow("keeper " + two + "; provide b 1.0.0", -409);
-        dueRow("keeper " + two + "; feature b:; feature c:;", 1);
-        dueRow("keeper " + two + "; feature b:; feature c: b;", -421);
-        dueRow("default " + two + "; feature b: b;", -410);
-        dueRow("default z; keeper " + two + ";", -12);
+        dueRowAlone("keeper " + two + ",a;", -1);
+        dueRowAlone("keeper " + two + "; keeper ", -416);
+        dueRowAlone("keeper " + two + "; keeper a-;", -416);
+        dueRowAlone("keeper " + two + "; keeper a", -409);
+        dueRowAlone("keeper " + two + "; need run b 1;", -420);
+        dueRowAlone("keeper " + two + "; need run b <1.0.0 >2;", -429);
+        dueRowAlone("keeper " + two + "; need run b <1.0.0 x", -409);
+        dueRowAlone("keeper " + two + "; any b <1.0.0 x", -409);
+        dueRowAlone("keeper " + two + "; script b ;", -418);
+        dueRowAlone("keeper " + two + "; script b c d", -409);
+        dueRowAlone("keeper " + two + "; file b x;", -416);
+        dueRowAlone("keeper " + two + "; file b 1", -409);
+        dueRowAlone("keeper " + two + "; provide b 1.0;", -422);
+        dueRowAlone("keeper " + two + "; provide b 1.0.0", -409);
+        dueRowAlone("keeper " + two + "; feature b:; feature c:;", 0);
+        dueRowAlone("keeper " + two + "; feature b:; feature c: b;", -421);
+        dueRowAlone("default " + two + "; feature b: b;", -410);
+        dueRowAlone("default z; keeper " + two + ";", -12);
     }
 
     private static void readingTooManyPackages() {
@@ -478,36 +472,35 @@ public final class PromiseTests {
                 + " feature G: f, f; default f; script s t; script s u; file q 1; file q 2; provide p 1.0.0;";
         dueRead(all, 0);
         due("itself", x.same(0, 0) ? 1 : 0, 1);
-        dueSame(all, 1);
-        dueSame(all.replace("Lib_X", "lib.x"), 1);
-        dueSame(all.replace("Lib_X", "libx"), 0);
-        dueSame(all.replace("1.2.3", "1.2.4"), 0);
-        dueSame(all.replace("run b", "run B"), 1);
-        dueSame(all.replace(">=1.0.0 <1.0.1", "=1.0.0"), 1);
-        dueSame(all.replace(">=1.0.0 <1.0.1", "=1.0.1"), 0);
-        dueSame(all.replace("run b", "build b"), 0);
-        dueSame(all.replace("any b *|c *; any d *|e *;", "any d *|e *; any b *|c *;"), 0);
-        dueSame(all.replace("any b *|c *;", "any C *|B *;"), 1);
-        dueSame(all.replace("feature f:;", "feature f:; feature F:;"), 1);
-        dueSame(all.replace("feature f:;", "feature f:; feature h:;"), 0);
-        dueSame(all.replace("G: f, f;", "G: f; feature g: f;"), 1);
-        dueSame(all.replace("G: f, f;", "G: f;"), 0);
-        dueSame(all.replace("G: f", "h: f"), 0);
-        dueSame(all.replace("script s t; script s u;", "script S U; script s T;"), 1);
-        dueSame(all.replace("script s u;", "script s t;"), 0);
-        dueSame(all.replace("file q 1; file q 2;", "file q 2; file q 1;"), 1);
-        dueSame(all.replace("file q 1; file q 2;", "file q 2; file q 2;"), 0);
-        dueSame(all.replace("p 1.0.0", "p 1.0.1"), 0);
-        dueSame(all.replace("default f;", ""), 0);
-        dueSame(all + "keeper k;", 0);
-        due("above", x.same(0, 40) ? 1 : 0, 0);
+        dueSame(all, all, true);
+        dueSame(all, all.replace("Lib_X", "lib.x"), true);
+        dueSame(all, all.replace("Lib_X", "libx"), false);
+        dueSame(all, all.replace("1.2.3", "1.2.4"), false);
+        dueSame(all, all.replace("run b", "run B"), true);
+        dueSame(all, all.replace(">=1.0.0 <1.0.1", "=1.0.0"), true);
+        dueSame(all, all.replace(">=1.0.0 <1.0.1", "=1.0.1"), false);
+        dueSame(all, all.replace("run b", "build b"), false);
+        dueSame(all, all.replace("any b *|c *; any d *|e *;", "any d *|e *; any b *|c *;"), false);
+        dueSame(all, all.replace("any b *|c *;", "any C *|B *;"), true);
+        dueSame(all, all.replace("feature f:;", "feature f:; feature F:;"), true);
+        dueSame(all, all.replace("feature f:;", "feature f:; feature h:;"), false);
+        dueSame(all, all.replace("G: f, f;", "G: f; feature g: f;"), true);
+        dueSame(all, all.replace("G: f, f;", "G: f;"), false);
+        dueSame(all, all.replace("G: f", "h: f"), false);
+        dueSame(all, all.replace("script s t; script s u;", "script S U; script s T;"), true);
+        dueSame(all, all.replace("script s u;", "script s t;"), false);
+        dueSame(all, all.replace("file q 1; file q 2;", "file q 2; file q 1;"), true);
+        dueSame(all, all.replace("file q 1; file q 2;", "file q 2; file q 2;"), false);
+        dueSame(all, all.replace("p 1.0.0", "p 1.0.1"), false);
+        dueSame(all, all.replace("default f;", ""), false);
+        dueSame(all, all + "keeper k;", false);
+        due("above", x.same(0, 2) ? 1 : 0, 0);
         due("below", x.same(-1, 0) ? 1 : 0, 0);
         due("none both", x.same(-1, -1) ? 1 : 0, 0);
         begin("10 same: features alone differ");
-        dueRead("package a 1.0.0; feature f:;", 0);
-        dueSame("package a 1.0.0; feature g:;", 0);
-        dueSame("package a 1.0.0;", 0);
-        dueSame("package a 1.0.0; feature F:;", 1);
+        dueSame("package a 1.0.0; feature f:;", "package a 1.0.0; feature g:;", false);
+        dueSame("package a 1.0.0; feature f:;", "package a 1.0.0;", false);
+        dueSame("package a 1.0.0; feature f:;", "package a 1.0.0; feature F:;", true);
     }
 
     private static void differAndChange() {
@@ -620,7 +613,7 @@ public final class PromiseTests {
             text += "|a>9.9.9";
             due += " | a >= 9.9.10";
         }
-        type(text + ";");
+        x.typeText(text + ";");
         due("read()", x.read(), 0);
         due("print(0)", x.print(0), due.length() + 1);
         duePrinted(due + ";");
@@ -647,7 +640,7 @@ public final class PromiseTests {
         dueNoFold("a*", -2, before);
         dueFold("x", "x");
         due("they are used up", x.fold(), -1);
-        type("a b");
+        x.typeText("a b");
         due("what can't stand is used up", x.fold(), -3);
         due("what can't stand is used up", x.fold(), -1);
     }
@@ -666,144 +659,5 @@ public final class PromiseTests {
         due("what was printed before is gone", x.at(1), -1);
         dueRead("package a 1.0.0", -16);
         due("reading leaves it", x.at(0), 'c');
-    }
-
-    private static void begin(String name) {
-        promise = name;
-        x = new PackageRows();
-    }
-
-    private static void due(String call, long got, long want) {
-        if (got != want) {
-            wrong++;
-            System.out.println(promise + ": " + call + " answered " + got + ", due is " + want);
-        }
-    }
-
-    private static void type(String text) {
-        for (int i = 0; i < text.length(); i += 8) {
-            long signs = 0;
-            for (int k = i; k < i + 8; k++) {
-                signs = signs << 8 | (k < text.length() ? text.charAt(k) : 0);
-            }
-            x.type(signs);
-        }
-    }
-
-    private static int dueRead(String text, int want) {
-        type(text);
-        int got = x.read();
-        due("read of '" + text + "'", got, want);
-        return got;
-    }
-
-    /** Rows of a package whose head has 16 signs; a place is told as if the rows' text began at 0. */
-    private static void dueRow(String rows, int want) {
-        dueRead("package a 1.0.0;" + rows, want < 0 ? want - 16 : want);
-    }
-
-    private static void dueRowWhats(int i, int... wants) {
-        for (int what = 0; what < wants.length; what++) {
-            due("row(0, " + i + ", " + what + ")", x.row(0, i, what), wants[what]);
-        }
-    }
-
-    private static String letters(int p, int i, int what) {
-        StringBuilder letters = new StringBuilder();
-        for (int k = 0; k < 100 && x.letter(p, i, what, k) != -1; k++) {
-            letters.append((char) x.letter(p, i, what, k));
-        }
-        return letters.toString();
-    }
-
-    private static void dueText(String call, String got, String want) {
-        if (!got.equals(want)) {
-            wrong++;
-            System.out.println(promise + ": " + call + " answered '" + got + "', due is '" + want + "'");
-        }
-    }
-
-    private static void dueNames(int p, String... names) {
-        due("rows(" + p + ")", x.rows(p), names.length);
-        for (int i = 0; i < names.length; i++) {
-            dueText("name of row " + i, letters(p, i, 0), names[i]);
-        }
-    }
-
-    private static void dueLetters(int i, String... wants) {
-        for (int what = 0; what < wants.length; what++) {
-            dueText("letter(0, " + i + ", " + what + ", ..)", letters(0, i, what), wants[what]);
-            due("letter(0, " + i + ", " + what + ", -1)", x.letter(0, i, what, -1), -1);
-        }
-    }
-
-    private static void dueVersions(int p, int i, long low, long high) {
-        due("low(" + p + ", " + i + ")", x.low(p, i), low);
-        due("high(" + p + ", " + i + ")", x.high(p, i), high);
-    }
-
-    private static void dueWhys(String rows, int... whys) {
-        x = new PackageRows();
-        dueRead("package A_a 1.0.0;" + rows, 0);
-        due("rows of " + rows, x.rows(0), whys.length);
-        int first = 0;
-        for (int i = 0; i < whys.length; i++) {
-            due("why of row " + i + " of " + rows, x.row(0, i, 4), whys[i]);
-            if (first == 0 && whys[i] != 0) {
-                first = i + 1;
-            }
-        }
-        due("check of " + rows, x.check(0), first);
-    }
-
-    private static void dueSame(String text, int want) {
-        type(text);
-        int p = x.read();
-        due("read of '" + text + "'", p < 0 ? p : 0, 0);
-        due("same(0, " + p + ") of '" + text + "'", x.same(0, p) ? 1 : 0, want);
-        due("same(" + p + ", 0) of '" + text + "'", x.same(p, 0) ? 1 : 0, want);
-    }
-
-    private static void dueChanges(int... sidesAndRows) {
-        int count = sidesAndRows.length / 2;
-        for (int k = 0; k < count; k++) {
-            due("change(" + k + ", 0)", x.change(k, 0), sidesAndRows[2 * k]);
-            due("change(" + k + ", 1)", x.change(k, 1), sidesAndRows[2 * k + 1]);
-        }
-        due("change behind the last", x.change(count, 0), -1);
-        due("change before the first", x.change(-1, 1), -1);
-    }
-
-    private static void duePrinted(String want) {
-        StringBuilder got = new StringBuilder();
-        for (int k = 0; k < 10000 && x.at(k) != -1; k++) {
-            got.append((char) x.at(k));
-        }
-        dueText("what was printed", got.toString(), want);
-    }
-
-    private static void duePrint(String text, String want) {
-        x = new PackageRows();
-        dueRead(text, 0);
-        due("print of '" + text + "'", x.print(0), want.length());
-        duePrinted(want);
-        dueRead(want, 1);
-        due("same when read again", x.same(0, 1) ? 1 : 0, 1);
-    }
-
-    private static void dueRange(String range, String want) {
-        duePrint("package a 1.0.0; need run b " + range + ";", "package a 1.0.0; need run b " + want + ";");
-    }
-
-    private static void dueFold(String text, String want) {
-        type(text);
-        due("fold of '" + text + "'", x.fold(), want.length());
-        duePrinted(want);
-    }
-
-    private static void dueNoFold(String text, int want, String before) {
-        type(text);
-        due("fold of '" + text + "'", x.fold(), want);
-        duePrinted(before);
     }
 }
