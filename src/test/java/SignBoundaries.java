@@ -32,6 +32,7 @@ public final class SignBoundaries extends Checks {
         notUsedUp();
         placeFrom0();
         endTooEarly();
+        nothingIsLeftBehindTheEnd();
         blanksBetween();
         noOtherBlanks();
         nameSigns();
@@ -180,6 +181,27 @@ public final class SignBoundaries extends Checks {
                 cantStand(begun + "\n \n@");
             }
         }
+    }
+
+    private static void nothingIsLeftBehindTheEnd() {
+        begin("read() and fold() use them up: signs of a longer text before don't count");
+        String whole = String.join(" ", wholeText());
+        for (int length = 0; length <= whole.length(); length++) {
+            String cut = whole.substring(0, length);
+            afresh();
+            x.typeText(cut);
+            int alone = x.read();
+            afresh();
+            dueRead(whole, 0);
+            dueRead(cut, alone == 0 ? 1 : alone);
+        }
+        afresh();
+        dueRead("package abcdefghijkl 1.0.0;", 0);
+        dueFold("package", "package");
+        dueNoFold("package a", -9, "package");
+        dueNoFold("    ", -5, "package");
+        dueRead("package a 1.0.12345;", 1);
+        dueRead("package a 1.0.1", -16);
     }
 
     /** All KINDS; each part is a word, a NAME, a VERSION, a NUMBER or a sign. */
