@@ -21,6 +21,7 @@ public final class RowBoundaries extends Checks {
         countedWhenRead();
         countedAheadOfJoining();
         featuresAreNoRows();
+        mostFeatures();
         sortedByKind();
         sortedByName();
         asTheyCame();
@@ -307,14 +308,33 @@ public final class RowBoundaries extends Checks {
         due("rows", x.rows(0), 1);
         rowsStand("feature a:;".repeat(180));
         due("rows", x.rows(0), 0);
-        StringBuilder text = new StringBuilder();
-        for (char first = 'a'; first <= 'g'; first++) {
-            for (char second = 'a'; second < 'x'; second++) {
-                text.append("feature ").append(first).append(second).append(":;");
+    }
+
+    private static void mostFeatures() {
+        begin("a feature without has none but itself is there: as many as 2000 signs can tell");
+        String text = HEAD;
+        String want = HEAD;
+        int count = 0;
+        for (char second = '/'; second <= 'z'; second++) {
+            for (char first = 'a'; first <= 'z'; first++) {
+                // '/' stands for no second sign; between the digits and the small letters there are others
+                String name = second == '/' ? "" + first : "" + first + second;
+                boolean fits = text.length() + name.length() + 10 <= 2000;
+                if (fits && (second <= '9' || second >= 'a')) {
+                    text += "feature " + name + ":;";
+                    want += " feature " + name + ":;";
+                    count++;
+                }
             }
         }
-        rowsStand(text + "default gw;");
-        due("rows", x.rows(0), 1);
+        due("features of the text", count, 167);
+        stands(text);
+        due("rows", x.rows(0), 0);
+        due("print", x.print(0), want.length());
+        duePrinted(want);
+        String last = want.substring(want.length() - 4, want.length() - 2);
+        dueSame(text, text.replace("feature " + last + ":;", "feature zz:;"), false);
+        rowsStand(text.substring(HEAD.length() + 22) + "default " + last + ";");
     }
 
     private static void sortedByKind() {
