@@ -197,7 +197,7 @@ public final class PackageRows {
     }
 
     private void tellAlone(boolean[] paired, int rowCount) {
-        for (int i = 0; i < rowCount && toldCount < told.length; i++) {
+        for (int i = 0; i < rowCount && i < paired.length && toldCount < told.length; i++) {
             if (!paired[i]) {
                 told[toldCount] = i;
                 toldCount++;

@@ -23,6 +23,8 @@ public final class FaceTest {
     public static void main(String[] args) throws IOException {
         face();
         source();
+        classes();
+        shortMethods();
         anyArguments();
         System.out.println(wrong == 0 ? "the face is as due" : wrong + " things are not as due");
         if (wrong != 0) {
@@ -83,6 +85,47 @@ public final class FaceTest {
         for (String pattern : patterns) {
             due(!Pattern.compile(pattern).matcher(code).find(), "nothing like " + pattern + " in the source");
         }
+    }
+
+    /** Rules 1, 5 and 11: what classes may hold, and how much of it. */
+    private static void classes() {
+        List<Class<?>> all = new ArrayList<>(List.of(PackageRows.class.getDeclaredClasses()));
+        all.add(PackageRows.class);
+        due(all.size() <= 12, "at most twelve classes: " + all.size());
+        for (Class<?> one : all) {
+            int fields = 0;
+            for (Field field : one.getDeclaredFields()) {
+                boolean isStatic = Modifier.isStatic(field.getModifiers());
+                fields += isStatic ? 0 : 1;
+                due(!isStatic || Modifier.isFinal(field.getModifiers()), field + " is final");
+            }
+            due(fields <= 20, one + " has at most twenty fields: " + fields);
+            for (Method method : one.getDeclaredMethods()) {
+                due(method.getParameterCount() <= 7, method + " takes at most seven parameters");
+            }
+            for (Constructor<?> constructor : one.getDeclaredConstructors()) {
+                due(constructor.getParameterCount() <= 7, constructor + " takes at most seven parameters");
+            }
+        }
+    }
+
+    /** Rule 11, by the lines from a method's head to the brace that stands below the head's first sign. */
+    private static void shortMethods() throws IOException {
+        List<String> lines = Files.readAllLines(SOURCE);
+        int methods = 0;
+        for (int n = 0; n < lines.size(); n++) {
+            String head = lines.get(n);
+            if (head.matches("( {4}| {8})\\w.*\\) \\{")) {
+                methods++;
+                String end = head.substring(0, head.length() - head.stripLeading().length()) + "}";
+                int length = 1;
+                while (n + length < lines.size() && !lines.get(n + length).equals(end)) {
+                    length++;
+                }
+                due(length < 60, "at most sixty lines: " + head.strip());
+            }
+        }
+        due(methods > 50, "the methods were found: " + methods);
     }
 
     /** All calls with ordinary and wild arguments. */

@@ -8,6 +8,9 @@ public final class RowBoundaries extends Checks {
     public static void main(String[] args) {
         eachEndedBySemicolon();
         noRows();
+        needsToReplace();
+        provided();
+        kindsOfLists();
         setsFromZero();
         atLeastTwo();
         featureWithoutNames();
@@ -77,6 +80,63 @@ public final class RowBoundaries extends Checks {
         due("check", x.check(0), 0);
         stands("package a 0.0.0;");
         stands("package " + TWENTY + " 999999.999999.999999;");
+    }
+
+    private static void needsToReplace() {
+        begin("0 to 4 need: run, build, test, optional or peer, a NAME, a RANGE. 5 conflict, 6 replace: NAME, RANGE");
+        String[] words = {"need run", "need build", "need test", "need optional", "need peer", "conflict", "replace"};
+        for (int kind = 0; kind < words.length; kind++) {
+            rowsStand(words[kind] + " B_b >=1.0.0 <2.0.0;");
+            due("rows", x.rows(0), 1);
+            dueRowWhats(0, kind, -1, 3, 3, 0);
+            dueLetters(0, "B_b", "b-b", "");
+            dueVersions(0, 0, 1000000000000L, 2000000000000L);
+            rowsCantStand(words[kind] + " b@;");
+            rowsCantStand(words[kind] + " @*;");
+            rowsCantStand(words[kind] + " b @c *;");
+            rowsCantStand(words[kind] + " b @1.0.0;");
+            rowsCantStand(words[kind] + " b *@, c *;");
+            rowsCantStand(words[kind] + " b *@|c *;");
+            rowsCantStand(words[kind] + " b@: c;");
+        }
+        for (String word : new String[] {"run", "build", "test", "optional", "peer"}) {
+            rowsCantStand("@" + word + " b *;");
+            rowsCantStand("need @b *; need " + word + " b *;");
+            rowsCantStand("need " + word + " " + word + " @run *;");
+            rowsCantStand("conflict " + word + " @b *;");
+        }
+        rowsCantStand("need @conflict b *;");
+        rowsCantStand("need @need run b *;");
+    }
+
+    private static void provided() {
+        begin("7 provide: NAME, VERSION");
+        rowsStand("provide B_b 1.2.3;");
+        due("rows", x.rows(0), 1);
+        dueRowWhats(0, 7, -1, 3, 3, 0);
+        dueLetters(0, "B_b", "b-b", "");
+        dueVersions(0, 0, 1000002000003L, 1000002000004L);
+        rowsCantStand("provide b@;");
+        rowsCantStand("provide @1.0.0;");
+        rowsCantStand("provide b @*;");
+        rowsCantStand("provide b @=1.0.0;");
+        rowsCantStand("provide b 7@;");
+        rowsCantStand("provide b 1.0.0 @2.0.0;");
+        rowsCantStand("provide b 1.0.0 @<2.0.0;");
+        rowsCantStand("provide b 1.0.0@, c 1.0.0;");
+        rowsCantStand("provide b 1.0.0@|c 1.0.0;");
+    }
+
+    private static void kindsOfLists() {
+        begin("8 any, 9 feature, 10 default, 11 platform, 12 licence, 13 keeper, 14 script, 15 file");
+        String[] rows = {"any N_n *|o *;", "feature f: N_n;", "feature n-n:; default N_n;", "platform N_n;",
+            "licence N_n;", "keeper N_n;", "script N_n t;", "file N_n 1;"};
+        for (int n = 0; n < rows.length; n++) {
+            rowsStand(rows[n]);
+            due("rows of " + rows[n], x.rows(0), n == 0 ? 2 : 1);
+            dueRowWhats(0, 8 + n, n == 0 ? 0 : -1, 3, 3, n == 1 ? 3 : 0);
+            dueLetters(0, "N_n", "n-n", n == 1 ? "f" : n == 6 ? "t" : "");
+        }
     }
 
     private static void setsFromZero() {
